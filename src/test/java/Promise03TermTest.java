@@ -8,6 +8,7 @@ public final class Promise03TermTest {
         fullStoreStillFinds();
         resultsAndRowsStay();
         newTermsAreMatched();
+        bothStoresFull();
         Check.end();
     }
 
@@ -98,5 +99,20 @@ public final class Promise03TermTest {
         Check.due("match of it", m.match(6), 0);
         Check.due("its binding", m.binding(0), 0);
         Check.due("rowPatternMatches of it", m.rowPatternMatches(0, 6), true);
+    }
+
+    private static void bothStoresFull() {
+        BacktrackMatch m = Check.declared();
+        for (int p = 0; p < 64; p++) {
+            Check.wild(m);
+        }
+        Check.plainRow(m, 63);
+        int t = m.term(0, 0, 0);
+        for (int due = 1; due < 64; due++) {
+            t = m.term(1, t, 0);
+            Check.due("term " + due + " with 64 patterns", t, due);
+            Check.due("its match with the last pattern", m.rowPatternMatches(0, due), true);
+        }
+        Check.due("a term too many", m.term(1, 63, 0), -1);
     }
 }

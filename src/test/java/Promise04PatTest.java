@@ -16,6 +16,7 @@ public final class Promise04PatTest {
         refusedWhenCompiled();
         refusedWhenFull();
         usedFlagsStartAnewAfterReset();
+        bothStoresFull();
         Check.end();
     }
 
@@ -200,5 +201,22 @@ public final class Promise04PatTest {
         Check.wild(m);
         Check.due("or of patterns with used ids", Check.or(m, 1, 0), 3);
         Check.due("row of a pattern with a used id", Check.plainRow(m, 2), 0);
+    }
+
+    private static void bothStoresFull() {
+        BacktrackMatch m = Check.declared();
+        int t = m.term(0, 0, 0);
+        for (int n = 1; n < 64; n++) {
+            t = m.term(1, t, 0);
+        }
+        int p = Check.cons(m, 0, 0, 0);
+        for (int due = 1; due < 64; due++) {
+            p = Check.cons(m, 1, p, 0);
+            Check.due("pattern " + due + " with 64 terms", p, due);
+        }
+        Check.due("a pattern too many", Check.wild(m), -1);
+        Check.plainRow(m, p);
+        Check.due("the highest pattern and the highest term", m.rowPatternMatches(0, t), true);
+        Check.due("the highest pattern and a lower term", m.rowPatternMatches(0, t - 1), false);
     }
 }
