@@ -1,13 +1,14 @@
+import java.util.Arrays;
+
 /** What the tests of the project share: comparing answers, small builders and pictures of all that can be told of an object. */
 final class Check {
-    /**
-     * Ints that are no id, variable, row, kind or selector in any state. Some of them become small numbers
-     * when they are cut to 8 or 16 bits or wrap around after a multiplication by 8 or 64.
-     */
+    /** Ints that are no id, variable, row, kind or selector in any state. */
     private static final int[] OUTSIDE = {
         Integer.MIN_VALUE, Integer.MIN_VALUE + 1, -65536, -256, -64, -8, -2, -1,
         64, 65, 256, 1000, 4096, 65536, 1 << 26, 1 << 29, Integer.MAX_VALUE - 1, Integer.MAX_VALUE,
     };
+    /** Added to a number, they don't change it for one who cuts it to 8 or 16 bits or multiplies it by 8 or 64. */
+    private static final int[] UNSEEN = {256, -256, 65536, -65536, 1 << 26, -(1 << 26), 1 << 29, Integer.MIN_VALUE};
 
     /** Far above what any test needs, the longest taking some seconds. */
     private static final long LONGEST_MILLIS = 300_000;
@@ -18,11 +19,14 @@ final class Check {
     private Check() {
     }
 
-    /** Ints outside 0..size-1: both extremes, the neighbours of both ends and some between. */
+    /** Ints outside 0..size-1: both extremes, the neighbours of both ends, and some that could be taken for size-1. */
     static int[] outside(int size) {
-        int[] ints = java.util.Arrays.copyOf(OUTSIDE, OUTSIDE.length + 2);
+        int[] ints = Arrays.copyOf(OUTSIDE, OUTSIDE.length + UNSEEN.length + 2);
         ints[OUTSIDE.length] = size;
         ints[OUTSIDE.length + 1] = size + 1;
+        for (int i = 0; i < UNSEEN.length; i++) {
+            ints[OUTSIDE.length + 2 + i] = size - 1 + UNSEEN[i];
+        }
         return ints;
     }
 
@@ -288,5 +292,18 @@ final class Check {
         m.compile();
         m.match(3);
         return m;
+    }
+
+    /**
+     * All that can be read of matched(), as it is due. Whoever reads it a second time also sees what the reading
+     * itself has changed, which two objects that were read alike would not show.
+     */
+    static void dueAsMatched(BacktrackMatch m) {
+        for (int round = 0; round < 2; round++) {
+            due("the results", results(m), "row 2 bindings -1 -1 -1 -1 -1 3 -1 -1 -1 -1 -1 -1 log 2: -1 -1 0 2" + " -1".repeat(8));
+            due("the counts", counts(m), "counts -1 4 6 11 3 1 -1");
+            String fits = "0".repeat(67) + "0000111" + "0".repeat(60) + "0001" + "0".repeat(63) + "0111111" + "0".repeat(60);
+            due("terms and rows", termsAndRows(m), "heights -1 1 1 2 2 3 2" + " -1".repeat(60) + " fits " + fits + "0".repeat(7 * 67));
+        }
     }
 }

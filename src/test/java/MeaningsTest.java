@@ -16,16 +16,18 @@ public final class MeaningsTest {
     private static void matching() {
         Check.sentence("P_WILD matches every t; writes nothing.", MeaningsTest::wild);
         Check.sentence("P_AS x q matches t iff q matches t", MeaningsTest::asMatchesWhatItsChildMatches);
-        Check.sentence("P_AS writes q's writes, then x := t.", MeaningsTest::asWritesLast);
-        Check.sentence("P_CONS matches t iff t's constructor is c", MeaningsTest::consLooksAtTheConstructor);
+        Check.sentence("[P_AS] writes q's writes, then x := t.", MeaningsTest::asWritesLast);
+        Check.sentence("[P_CONS] matches t iff t's constructor is c", MeaningsTest::consLooksAtTheConstructor);
         Check.sentence("and, for each i below arity(c), qi matches child i of t", MeaningsTest::consLooksAtEachChild);
         Check.sentence("writes q0's writes, then q1's writes", MeaningsTest::childOneWritesLast);
         Check.sentence("(only those below the arity)", MeaningsTest::nothingPastTheArity);
         Check.sentence("P_OR q r matches t iff q matches t or r matches t", MeaningsTest::orMatchesEither);
         Check.sentence("writes q's writes if q matches t", MeaningsTest::leftAlternativeWrites);
         Check.sentence("else r's writes", MeaningsTest::rightAlternativeWrites);
-        Check.sentence("(nested patterns)", MeaningsTest::nested);
-        Check.sentence("(one tree of as many patterns as there can be)", MeaningsTest::largestTrees);
+        Check.sentence("In the MATCHING rules, P_AS x q has x = a, q = b; P_CONS c q0 q1 has c = a, q0 = b, q1 = c; P_OR q r has q = a, r = b.",
+            MeaningsTest::argumentsOfPat);
+        Check.sentence("[nested patterns]", MeaningsTest::nested);
+        Check.sentence("[one tree of as many patterns as there can be]", MeaningsTest::largestTrees);
     }
 
     private static void bindings() {
@@ -35,6 +37,8 @@ public final class MeaningsTest {
 
     private static void guards() {
         Check.sentence("GUARDS, evaluated on one row's own bindings", MeaningsTest::guardsSeeTheirOwnRowOnly);
+        Check.sentence("Here x and y are the row's g1 and g2 for G_SAME and G_DIFF; x is g1 and c or k is g2 for G_HEAD and G_LOW.",
+            MeaningsTest::argumentsOfGuards);
         Check.sentence("G_NONE: no guard; the row is selected whenever its pattern matches.", MeaningsTest::noGuard);
         Check.sentence("G_SAME x y: true iff x and y are both bound", MeaningsTest::sameOfUnbound);
         Check.sentence("and to the same term id", MeaningsTest::sameOfBound);
@@ -56,8 +60,8 @@ public final class MeaningsTest {
         Check.sentence("(no other alternative of an or-pattern of row r is tried: row r simply fails)",
             MeaningsTest::failedGuardTriesNoOtherAlternative);
         Check.sentence("Selecting r means: lastRow := r, the bindings := B, stop.", MeaningsTest::selectingStops);
-        Check.sentence("NO_MATCH if no row was selected; then all bindings stay -1", MeaningsTest::failedRowsLeaveNoBindings);
-        Check.sentence("So each row appears at most once in the guard log, in increasing order", MeaningsTest::logIncreases);
+        Check.sentence("3. The answer is lastRow (NO_MATCH if no row was selected; then all bindings stay -1)", MeaningsTest::failedRowsLeaveNoBindings);
+        Check.sentence("So each row appears at most once in the guard log, in increasing order, and each guard is run at most once per match.", MeaningsTest::logIncreases);
     }
 
     private static int ask(BacktrackMatch m, int t) {
@@ -178,6 +182,9 @@ public final class MeaningsTest {
         BacktrackMatch m = Check.stocked();
         Check.plainRow(m, Check.or(m, Check.leaf(m, 3), Check.cons(m, 1, Check.wild(m), 0)));
         dueMatches(m, "011000");
+        BacktrackMatch both = Check.stocked();
+        Check.plainRow(both, Check.or(both, Check.wild(both), Check.leaf(both, 0)));
+        dueMatches(both, "111111");
         BacktrackMatch neither = Check.stocked();
         Check.plainRow(neither, Check.cons(neither, 1, Check.or(neither, Check.leaf(neither, 3), Check.cons(neither, 1, Check.wild(neither), 0)), 0));
         neither.term(1, 1, 0);
@@ -206,13 +213,39 @@ public final class MeaningsTest {
         Check.due("D", ask(m, 1), BacktrackMatch.NO_MATCH);
     }
 
+    /** Every id is another one than its place would be, so that no two arguments can change places unseen. */
+    private static void argumentsOfPat() {
+        BacktrackMatch as = Check.stocked();
+        Check.leaf(as, 3);
+        Check.wild(as);
+        Check.plainRow(as, as.pat(BacktrackMatch.P_AS, 1, 0, 1));
+        dueMatches(as, "010000");
+        ask(as, 1);
+        Check.due("bindings", bound(as), "-1 1 -1 -1 -1 -1 -1 -1");
+        BacktrackMatch cons = Check.stocked();
+        Check.leaf(cons, 3);
+        Check.leaf(cons, 0);
+        Check.wild(cons);
+        Check.plainRow(cons, cons.pat(BacktrackMatch.P_CONS, 2, 1, 0));
+        dueMatches(cons, "000100");
+        BacktrackMatch or = Check.stocked();
+        Check.as(or, 2, Check.leaf(or, 0));
+        Check.var(or, 3);
+        Check.plainRow(or, or.pat(BacktrackMatch.P_OR, 3, 1, 0));
+        dueMatches(or, "111111");
+        ask(or, 0);
+        Check.due("bindings", bound(or), "-1 -1 -1 0 -1 -1 -1 -1");
+    }
+
     private static void nested() {
         BacktrackMatch m = Check.stocked();
         int left = Check.cons(m, 1, Check.var(m, 0), 0);
         int right = Check.cons(m, 2, Check.var(m, 1), Check.as(m, 2, Check.leaf(m, 3)));
         Check.plainRow(m, Check.as(m, 3, Check.cons(m, 2, left, right)));
         m.term(2, 2, 5);
-        dueMatches(m, "0000100");
+        m.term(2, 5, 3);
+        m.term(2, 2, 6);
+        dueMatches(m, "000010000");
         ask(m, 4);
         Check.due("bindings", bound(m), "0 0 1 4 -1 -1 -1 -1");
     }
@@ -291,6 +324,20 @@ public final class MeaningsTest {
         }
     }
 
+    /** With the two arguments changed over, no guard would hold here or be the row's. */
+    private static void argumentsOfGuards() {
+        BacktrackMatch m = Check.stocked();
+        m.addRow(Check.as(m, 2, Check.cons(m, 1, Check.var(m, 1), 0)), BacktrackMatch.G_HEAD, 2, 1);
+        m.addRow(Check.as(m, 1, Check.cons(m, 2, Check.wild(m), Check.wild(m))), BacktrackMatch.G_LOW, 1, 2);
+        m.addRow(Check.cons(m, 2, Check.var(m, 4), Check.var(m, 3)), BacktrackMatch.G_DIFF, 3, 4);
+        m.addRow(Check.as(m, 6, Check.var(m, 5)), BacktrackMatch.G_SAME, 5, 6);
+        m.compile();
+        int[] rows = {3, 3, 0, 1, 2, 1};
+        for (int t = 0; t < rows.length; t++) {
+            Check.due("match(" + t + ")", ask(m, t), rows[t]);
+        }
+    }
+
     private static void noGuard() {
         BacktrackMatch m = Check.stocked();
         Check.plainRow(m, Check.wild(m));
@@ -300,13 +347,14 @@ public final class MeaningsTest {
         }
     }
 
-    /** Row 0 is C(x0, x7) with the guard; answers whether it is selected for each of the terms 3, 4 and 5. */
+    /** Row 0 is C(x0, x7) with the guard; answers whether it is selected for each of the terms 3, 4, 5 and C(B(A), B(D)). */
     private static String holds(int kind, int g1, int g2) {
         BacktrackMatch m = Check.stocked();
         m.addRow(Check.cons(m, 2, Check.var(m, 0), Check.var(m, 7)), kind, g1, g2);
         m.compile();
+        int last = m.term(2, 2, m.term(1, 1, 0));
         StringBuilder answers = new StringBuilder();
-        for (int t = 3; t <= 5; t++) {
+        for (int t : new int[] {3, 4, 5, last}) {
             answers.append(ask(m, t) == 0 ? '1' : '0');
             Check.due("the log", log(m), "log 0");
         }
@@ -315,49 +363,49 @@ public final class MeaningsTest {
 
     private static void sameOfUnbound() {
         for (int x = 1; x < 7; x++) {
-            Check.due("same 0 " + x, holds(BacktrackMatch.G_SAME, 0, x), "000");
-            Check.due("same " + x + " 0", holds(BacktrackMatch.G_SAME, x, 0), "000");
+            Check.due("same 0 " + x, holds(BacktrackMatch.G_SAME, 0, x), "0000");
+            Check.due("same " + x + " 0", holds(BacktrackMatch.G_SAME, x, 0), "0000");
             for (int y = 1; y < 7; y++) {
-                Check.due("same " + x + " " + y, holds(BacktrackMatch.G_SAME, x, y), "000");
+                Check.due("same " + x + " " + y, holds(BacktrackMatch.G_SAME, x, y), "0000");
             }
         }
     }
 
     private static void sameOfBound() {
-        Check.due("same 0 7", holds(BacktrackMatch.G_SAME, 0, 7), "001");
-        Check.due("same 7 0", holds(BacktrackMatch.G_SAME, 7, 0), "001");
-        Check.due("same 0 0", holds(BacktrackMatch.G_SAME, 0, 0), "111");
-        Check.due("same 7 7", holds(BacktrackMatch.G_SAME, 7, 7), "111");
+        Check.due("same 0 7", holds(BacktrackMatch.G_SAME, 0, 7), "0010");
+        Check.due("same 7 0", holds(BacktrackMatch.G_SAME, 7, 0), "0010");
+        Check.due("same 0 0", holds(BacktrackMatch.G_SAME, 0, 0), "1111");
+        Check.due("same 7 7", holds(BacktrackMatch.G_SAME, 7, 7), "1111");
     }
 
     private static void diffOfUnbound() {
         for (int x = 1; x < 7; x++) {
-            Check.due("diff 0 " + x, holds(BacktrackMatch.G_DIFF, 0, x), "000");
-            Check.due("diff " + x + " 0", holds(BacktrackMatch.G_DIFF, x, 0), "000");
+            Check.due("diff 0 " + x, holds(BacktrackMatch.G_DIFF, 0, x), "0000");
+            Check.due("diff " + x + " 0", holds(BacktrackMatch.G_DIFF, x, 0), "0000");
             for (int y = 1; y < 7; y++) {
-                Check.due("diff " + x + " " + y, holds(BacktrackMatch.G_DIFF, x, y), "000");
+                Check.due("diff " + x + " " + y, holds(BacktrackMatch.G_DIFF, x, y), "0000");
             }
         }
     }
 
     private static void diffOfBound() {
-        Check.due("diff 0 7", holds(BacktrackMatch.G_DIFF, 0, 7), "110");
-        Check.due("diff 7 0", holds(BacktrackMatch.G_DIFF, 7, 0), "110");
-        Check.due("diff 0 0", holds(BacktrackMatch.G_DIFF, 0, 0), "000");
-        Check.due("diff 7 7", holds(BacktrackMatch.G_DIFF, 7, 7), "000");
+        Check.due("diff 0 7", holds(BacktrackMatch.G_DIFF, 0, 7), "1101");
+        Check.due("diff 7 0", holds(BacktrackMatch.G_DIFF, 7, 0), "1101");
+        Check.due("diff 0 0", holds(BacktrackMatch.G_DIFF, 0, 0), "0000");
+        Check.due("diff 7 7", holds(BacktrackMatch.G_DIFF, 7, 7), "0000");
     }
 
     private static void headOfUnbound() {
         for (int x = 1; x < 7; x++) {
             for (int c = 0; c < 4; c++) {
-                Check.due("head " + x + " " + c, holds(BacktrackMatch.G_HEAD, x, c), "000");
+                Check.due("head " + x + " " + c, holds(BacktrackMatch.G_HEAD, x, c), "0000");
             }
         }
     }
 
     private static void headOfBound() {
-        String[] first = {"101", "010", "000", "000"};
-        String[] second = {"001", "000", "010", "100"};
+        String[] first = {"1010", "0101", "0000", "0000"};
+        String[] second = {"0010", "0001", "0100", "1000"};
         for (int c = 0; c < 4; c++) {
             Check.due("head 0 " + c, holds(BacktrackMatch.G_HEAD, 0, c), first[c]);
             Check.due("head 7 " + c, holds(BacktrackMatch.G_HEAD, 7, c), second[c]);
@@ -367,19 +415,19 @@ public final class MeaningsTest {
     private static void lowOfUnbound() {
         for (int x = 1; x < 7; x++) {
             for (int k : new int[] {Integer.MIN_VALUE, -1, 0, 1, 64, Integer.MAX_VALUE}) {
-                Check.due("low " + x + " " + k, holds(BacktrackMatch.G_LOW, x, k), "000");
+                Check.due("low " + x + " " + k, holds(BacktrackMatch.G_LOW, x, k), "0000");
             }
         }
     }
 
     private static void lowOfBound() {
-        Check.due("low 0 0", holds(BacktrackMatch.G_LOW, 0, 0), "000");
-        Check.due("low 0 1", holds(BacktrackMatch.G_LOW, 0, 1), "101");
-        Check.due("low 0 2", holds(BacktrackMatch.G_LOW, 0, 2), "111");
-        Check.due("low 7 1", holds(BacktrackMatch.G_LOW, 7, 1), "101");
-        Check.due("low 7 2", holds(BacktrackMatch.G_LOW, 7, 2), "111");
-        Check.due("low 7, greatest int", holds(BacktrackMatch.G_LOW, 7, Integer.MAX_VALUE), "111");
-        Check.due("low 7, least int", holds(BacktrackMatch.G_LOW, 7, Integer.MIN_VALUE), "000");
+        Check.due("low 0 0", holds(BacktrackMatch.G_LOW, 0, 0), "0000");
+        Check.due("low 0 1", holds(BacktrackMatch.G_LOW, 0, 1), "1010");
+        Check.due("low 0 2", holds(BacktrackMatch.G_LOW, 0, 2), "1111");
+        Check.due("low 7 1", holds(BacktrackMatch.G_LOW, 7, 1), "1010");
+        Check.due("low 7 2", holds(BacktrackMatch.G_LOW, 7, 2), "1111");
+        Check.due("low 7, greatest int", holds(BacktrackMatch.G_LOW, 7, Integer.MAX_VALUE), "1111");
+        Check.due("low 7, least int", holds(BacktrackMatch.G_LOW, 7, Integer.MIN_VALUE), "0000");
     }
 
     private static void resultsAreCleared() {
@@ -484,6 +532,7 @@ public final class MeaningsTest {
         for (int t = 0; t < 6; t++) {
             Check.due("match(" + t + ")", ask(m, t), BacktrackMatch.NO_MATCH);
             Check.due("lastRow()", m.lastRow(), BacktrackMatch.NO_MATCH);
+            Check.due("the counts", Check.counts(m), "counts -1 4 6 16 8 1 -1");
             Check.due("bindings", bound(m), "-1 -1 -1 -1 -1 -1 -1 -1");
             Check.due("the log", log(m), "log 0 1 2 3 4 5 6 7");
         }

@@ -30,6 +30,10 @@ final class MixedRuns {
             for (int n = below(12); n > 0; n--) {
                 make.accept(addRow(m));
             }
+            if (below(6) == 0) {
+                // An end with open rows, where the used flags can still be told.
+                return;
+            }
             make.accept(new int[] {Calls.COMPILE});
             for (int n = below(40); n > 0; n--) {
                 make.accept(match(m));

@@ -4,6 +4,14 @@ public final class Promise01ConstructionTest {
         Integer.MIN_VALUE, -1, 0, 1, 2, 7, 8, 9, 63, 64, 65, Integer.MAX_VALUE,
     };
 
+    /** Some of both become numbers in between when they are cut to 8 or 16 bits. */
+    private static final int[] TOO_SMALL = {
+        Integer.MIN_VALUE, Integer.MIN_VALUE + 1, Integer.MIN_VALUE + 20, -65536 + 20, -65536, -256 + 20, -256, -64, -8, -1, 0,
+    };
+    private static final int[] TOO_LARGE = {
+        65, 66, 128, 256, 256 + 9, 1000, 65536, 65536 + 9, 1 << 26, (1 << 26) + 9, Integer.MAX_VALUE - 1, Integer.MAX_VALUE,
+    };
+
     public static void main(String[] args) {
         Check.sentence("a value below the least becomes the least", Promise01ConstructionTest::belowTheLeast);
         Check.sentence("a value above the greatest becomes the greatest", Promise01ConstructionTest::aboveTheGreatest);
@@ -21,7 +29,7 @@ public final class Promise01ConstructionTest {
     }
 
     private static void belowTheLeast() {
-        for (int small : new int[] {Integer.MIN_VALUE, Integer.MIN_VALUE + 1, -65536, -256, -64, -8, -1, 0}) {
+        for (int small : TOO_SMALL) {
             dueRoom(small, 20, 3, "8 20 3");
             dueRoom(20, small, 3, "20 8 3");
             dueRoom(20, 20, small, "20 20 1");
@@ -31,7 +39,7 @@ public final class Promise01ConstructionTest {
     }
 
     private static void aboveTheGreatest() {
-        for (int large : new int[] {65, 66, 128, 256, 1000, 65536 + 9, 1 << 26, Integer.MAX_VALUE - 1, Integer.MAX_VALUE}) {
+        for (int large : TOO_LARGE) {
             dueRoom(large, 20, 3, "64 20 3");
             dueRoom(20, large, 3, "20 64 3");
             dueRoom(20, 20, large, "20 20 8");

@@ -2,16 +2,17 @@
 public final class Promise02DefConsTest {
     public static void main(String[] args) {
         Check.sentence("1. termCount > 0", Promise02DefConsTest::refusedWithATerm);
-        Check.sentence("1. or patternCount > 0", Promise02DefConsTest::refusedWithAPattern);
+        Check.sentence("1. [..] or patternCount > 0", Promise02DefConsTest::refusedWithAPattern);
         Check.sentence("2. consCount == MAX_CONS", Promise02DefConsTest::refusedWhenFull);
         Check.sentence("3. arity outside 0..2", Promise02DefConsTest::refusedArities);
         Check.sentence("tests in order, and each refusal answers -1", Promise02DefConsTest::severalReasons);
         Check.sentence("Otherwise the constructor gets id consCount", Promise02DefConsTest::idsCountUp);
         Check.sentence("with the given arity", Promise02DefConsTest::aritiesAreKept);
         Check.sentence("consCount grows by 1, and the id is the answer. Nothing else changes.", Promise02DefConsTest::nothingElseChanges);
+        Check.sentence("A refusal changes nothing.", Promise02DefConsTest::refusalsChangeNothing);
         Check.sentence("Since reset() keeps terms, once a term exists every later defCons is refused.",
             Promise02DefConsTest::refusedForEverWithATerm);
-        Check.sentence("(no other reason to refuse:) Otherwise", Promise02DefConsTest::refusedCallsAndCompileForbidNothing);
+        Check.sentence("Otherwise [there is no other reason to refuse]", Promise02DefConsTest::refusedCallsAndCompileForbidNothing);
         Check.end();
     }
 
@@ -128,6 +129,33 @@ public final class Promise02DefConsTest {
             Check.due("the results, terms and rows", Check.results(m) + Check.termsAndRows(m), before);
             Check.due("the counts", Check.counts(m), "counts -1 " + (c + 1) + " 0 0 0 1 -1");
         }
+    }
+
+    private static BacktrackMatch withSeven() {
+        BacktrackMatch m = Check.declared();
+        for (int arity : new int[] {2, 1, 0}) {
+            m.defCons(arity);
+        }
+        return m;
+    }
+
+    private static void refusalsChangeNothing() {
+        BacktrackMatch m = withSeven();
+        for (int arity : Check.outside(3)) {
+            m.defCons(arity);
+        }
+        Check.due("the counts", Check.counts(m), "counts -1 7 0 0 0 0 -1");
+        Check.same("what is left after the refusals", m, withSeven());
+        m = withSeven();
+        Check.wild(m);
+        m.defCons(2);
+        m.reset();
+        Check.due("the eighth constructor", m.defCons(1), 7);
+        m.defCons(0);
+        m.term(0, 0, 0);
+        m.defCons(0);
+        Check.due("the eighth constructor has arity 1", m.term(7, 0, -1), 1);
+        Check.due("and reads its child", m.term(7, -1, 0), -1);
     }
 
     private static void refusedForEverWithATerm() {

@@ -1,3 +1,6 @@
+import java.util.HashMap;
+import java.util.Map;
+
 /** Promise 3: term shares equal nodes, reads no argument past the arity and is allowed in every phase. */
 public final class Promise03TermTest {
     public static void main(String[] args) {
@@ -14,11 +17,13 @@ public final class Promise03TermTest {
         Check.sentence("Tests in order", Promise03TermTest::severalReasons);
         Check.sentence("Otherwise the node gets id termCount, termCount grows by 1, and the answer is the id.",
             Promise03TermTest::idsCountUp);
+        Check.sentence("No two nodes have the same constructor and the same children, because term() shares nodes.",
+            Promise03TermTest::noTwoNodesAlike);
         Check.sentence("two terms are structurally equal exactly when their ids are equal", Promise03TermTest::differentTermsDiffer);
         Check.sentence("term is allowed in every phase, also after compile.", Promise03TermTest::everyPhase);
         Check.sentence("It never changes constructors, patterns, rows, the compiled flag or the results.",
             Promise03TermTest::changesNothingElse);
-        Check.sentence("(a term built after compile is a term like any other)", Promise03TermTest::laterTermsAreMatched);
+        Check.sentence("[a term built after compile is a term like any other]", Promise03TermTest::laterTermsAreMatched);
         Check.end();
     }
 
@@ -170,6 +175,39 @@ public final class Promise03TermTest {
             Check.due("term " + t, id, t);
             Check.due("terms", m.count(BacktrackMatch.COUNT_TERMS), t + 1);
         }
+        BacktrackMatch pairs = new BacktrackMatch(64, 64, 8);
+        pairs.defCons(2);
+        pairs.defCons(0);
+        Check.due("a leaf", pairs.term(1, 0, 0), 0);
+        Check.due("constructor 0 over term 0 twice", pairs.term(0, 0, 0), 1);
+        Check.due("terms", pairs.count(BacktrackMatch.COUNT_TERMS), 2);
+        Check.due("its height", pairs.termHeight(1), 2);
+    }
+
+    private static void noTwoNodesAlike() {
+        BacktrackMatch m = Check.declared();
+        Map<String, Integer> ids = new HashMap<>();
+        for (int round = 0; round < 3; round++) {
+            for (int t0 = 0; t0 < 5; t0++) {
+                for (int t1 = 0; t1 < 5; t1++) {
+                    dueShared(m, ids, 0, t0, t1, "A");
+                    dueShared(m, ids, 3, t0, t1, "D");
+                    dueShared(m, ids, 1, t0, t1, "B " + t0);
+                    dueShared(m, ids, 2, t0, t1, "C " + t0 + " " + t1);
+                }
+            }
+        }
+        Check.due("terms", m.count(BacktrackMatch.COUNT_TERMS), 2 + 5 + 25);
+        Check.due("terms", m.count(BacktrackMatch.COUNT_TERMS), ids.size());
+    }
+
+    /** The first answer for a node is its id, and every later one is the same. */
+    private static void dueShared(BacktrackMatch m, Map<String, Integer> ids, int c, int t0, int t1, String node) {
+        int id = m.term(c, t0, t1);
+        if (id != -1) {
+            ids.putIfAbsent(node, id);
+            Check.due(node, id, ids.get(node));
+        }
     }
 
     private static void differentTermsDiffer() {
@@ -177,13 +215,22 @@ public final class Promise03TermTest {
         Check.due("C(D, A), the children of C(A, D) the other way round", m.term(2, 1, 0), 6);
         Check.due("C(D, D), only child 0 other than in C(A, D)", m.term(2, 1, 1), 7);
         Check.due("B(D), only the child other than in B(A)", m.term(1, 1, 0), 8);
-        BacktrackMatch alike = new BacktrackMatch(64, 64, 8);
-        for (int arity : new int[] {0, 0, 1, 1, 2, 2}) {
-            alike.defCons(arity);
+        differInTheConstructorAlone();
+    }
+
+    private static void differInTheConstructorAlone() {
+        BacktrackMatch up = new BacktrackMatch(64, 64, 8);
+        BacktrackMatch down = new BacktrackMatch(64, 64, 8);
+        for (int n = 0; n < 6; n++) {
+            up.defCons(n / 2);
+            down.defCons(2 - n / 2);
         }
-        for (int c = 0; c < 6; c++) {
-            Check.due("constructor " + c + " over the same children", alike.term(c, 0, 0), c);
+        for (int n = 0; n < 6; n++) {
+            Check.due("constructor " + n + " over the same children", up.term(n, 0, 0), n);
+            Check.due("constructor " + (5 - n) + " over the same children", down.term(5 - n, 0, 0), n);
         }
+        Check.due("terms", up.count(BacktrackMatch.COUNT_TERMS), 6);
+        Check.due("terms", down.count(BacktrackMatch.COUNT_TERMS), 6);
     }
 
     private static void everyPhase() {

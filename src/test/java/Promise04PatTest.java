@@ -8,26 +8,26 @@ public final class Promise04PatTest {
         Check.sentence("whose used flag is false", Promise04PatTest::childrenThatAreUsed);
         Check.sentence("P_WILD: a, b, c are ignored; nothing to test.", Promise04PatTest::wildIgnoresAll);
         Check.sentence("P_AS: a is the variable and must be in 0..7", Promise04PatTest::variablesOfAs);
-        Check.sentence("P_AS: b must be a valid child", Promise04PatTest::childOfAs);
-        Check.sentence("P_AS: c is ignored", Promise04PatTest::asIgnoresC);
+        Check.sentence("[P_AS:] b must be a valid child", Promise04PatTest::childOfAs);
+        Check.sentence("[P_AS:] c is ignored", Promise04PatTest::asIgnoresC);
         Check.sentence("P_CONS: a is the constructor and must be in 0..consCount-1", Promise04PatTest::constructorsOfCons);
         Check.sentence("if arity(a) >= 1, b must be a valid child", Promise04PatTest::firstChildOfCons);
         Check.sentence("if arity(a) == 2, c must be a valid child", Promise04PatTest::secondChildOfCons);
         Check.sentence("and c != b", Promise04PatTest::childrenOfConsDiffer);
         Check.sentence("Arguments past the arity are ignored.", Promise04PatTest::consIgnoresPastTheArity);
-        Check.sentence("P_OR: both must be valid children", Promise04PatTest::alternativesOfOr);
+        Check.sentence("[P_OR:] both must be valid children", Promise04PatTest::alternativesOfOr);
         Check.sentence("and a != b", Promise04PatTest::alternativesOfOrDiffer);
-        Check.sentence("P_OR: c is ignored", Promise04PatTest::orIgnoresC);
+        Check.sentence("[P_OR:] c is ignored", Promise04PatTest::orIgnoresC);
         Check.sentence("tests in order, and each refusal answers -1", Promise04PatTest::severalReasons);
-        Check.sentence("Otherwise the node gets id patternCount with its kind and arguments", Promise04PatTest::idsCountUp);
+        Check.sentence("Otherwise the node gets id patternCount [..] patternCount grows by 1, and the id is the answer.", Promise04PatTest::idsCountUp);
         Check.sentence("each child read in step 4 gets used = true", Promise04PatTest::readChildrenGetUsed);
-        Check.sentence("(a child not read stays as it was)", Promise04PatTest::unreadChildrenStayFree);
+        Check.sentence("[a child not read stays as it was]", Promise04PatTest::unreadChildrenStayFree);
         Check.sentence("The new node itself starts with used = false.", Promise04PatTest::newNodesAreFree);
-        Check.sentence("The new node itself starts with used = false. (where the id was used before reset)",
+        Check.sentence("The new node itself starts with used = false. [where the id was used before reset]",
             Promise04PatTest::newNodesAreFreeAfterReset);
         Check.sentence("Nothing else changes.", Promise04PatTest::nothingElseChanges);
         Check.sentence("A refusal changes nothing, including the used flags.", Promise04PatTest::refusalsLeaveTheUsedFlags);
-        Check.sentence("(64 patterns over 64 terms)", Promise04PatTest::bothStoresFull);
+        Check.sentence("[64 patterns over 64 terms]", Promise04PatTest::bothStoresFull);
         Check.end();
     }
 
@@ -139,12 +139,11 @@ public final class Promise04PatTest {
     }
 
     private static void wildIgnoresAll() {
-        BacktrackMatch m = Check.declared();
-        int due = 0;
         for (int odd : Check.outside(0)) {
-            Check.due("pat(0, " + odd + ", 0, 0)", m.pat(BacktrackMatch.P_WILD, odd, 0, 0), due++);
-            Check.due("pat(0, 0, " + odd + ", 0)", m.pat(BacktrackMatch.P_WILD, 0, odd, 0), due++);
-            Check.due("pat(0, 0, 0, " + odd + ")", m.pat(BacktrackMatch.P_WILD, 0, 0, odd), due++);
+            BacktrackMatch m = Check.declared();
+            Check.due("pat(0, " + odd + ", 0, 0)", m.pat(BacktrackMatch.P_WILD, odd, 0, 0), 0);
+            Check.due("pat(0, 0, " + odd + ", 0)", m.pat(BacktrackMatch.P_WILD, 0, odd, 0), 1);
+            Check.due("pat(0, 0, 0, " + odd + ")", m.pat(BacktrackMatch.P_WILD, 0, 0, odd), 2);
         }
     }
 
@@ -226,7 +225,6 @@ public final class Promise04PatTest {
         Check.same("what is left after the refusals", m, open());
         Check.due("arity 2 of 3 and 4", Check.cons(open(), 2, 3, 4), 5);
         Check.due("arity 2 of 4 and 3", Check.cons(open(), 2, 4, 3), 5);
-        Check.due("arity 1 with c = b", Check.cons(open(), 1, 3, 3), 5);
     }
 
     private static void consIgnoresPastTheArity() {
@@ -239,6 +237,8 @@ public final class Promise04PatTest {
             Check.due("arity 0 with used " + used, Check.cons(open(), 0, used, used), 5);
             Check.due("arity 1 with a used c " + used, Check.cons(open(), 1, 3, used), 5);
         }
+        Check.due("arity 0 with c = b", Check.cons(open(), 0, 3, 3), 5);
+        Check.due("arity 1 with c = b", Check.cons(open(), 1, 3, 3), 5);
     }
 
     private static void alternativesOfOr() {
@@ -328,6 +328,8 @@ public final class Promise04PatTest {
         Check.due("arity 1 of 0, naming 2", m.pat(BacktrackMatch.P_CONS, 1, 0, 2), 5);
         Check.due("as of 5, naming 1 as variable and 2", m.pat(BacktrackMatch.P_AS, 1, 5, 2), 6);
         Check.due("or of 6 and 4, naming 2", m.pat(BacktrackMatch.P_OR, 6, 4, 2), 7);
+        Check.due("wild naming 2, 1 and 3", m.pat(BacktrackMatch.P_WILD, 2, 1, 3), 8);
+        Check.due("wild naming 1, 3 and 2", m.pat(BacktrackMatch.P_WILD, 1, 3, 2), 9);
         Check.due("row of 1", Check.plainRow(m, 1), 0);
         Check.due("row of 2", Check.plainRow(m, 2), 1);
         Check.due("row of 3", Check.plainRow(m, 3), 2);

@@ -4,10 +4,10 @@ public final class Promise05AddRowTest {
         Check.sentence("1. compiled", Promise05AddRowTest::refusedWhenCompiled);
         Check.sentence("2. rowCount == rowCapacity", Promise05AddRowTest::refusedWhenFull);
         Check.sentence("3. p outside 0..patternCount-1", Promise05AddRowTest::patternsThatAreNotThere);
-        Check.sentence("3. or p's used flag is true", Promise05AddRowTest::patternsThatAreUsed);
+        Check.sentence("3. [..] or p's used flag is true", Promise05AddRowTest::patternsThatAreUsed);
         Check.sentence("4. guardKind outside 0..4", Promise05AddRowTest::refusedGuardKinds);
         Check.sentence("G_NONE: g1, g2 ignored", Promise05AddRowTest::noGuardIgnoresAll);
-        Check.sentence("G_SAME: g1 and g2 in 0..7", () -> twoVariables(BacktrackMatch.G_SAME));
+        Check.sentence("G_SAME, [..] g1 and g2 in 0..7", () -> twoVariables(BacktrackMatch.G_SAME));
         Check.sentence("G_DIFF: g1 and g2 in 0..7", () -> twoVariables(BacktrackMatch.G_DIFF));
         Check.sentence("G_HEAD: g1 in 0..7", () -> oneVariable(BacktrackMatch.G_HEAD));
         Check.sentence("and g2 in 0..consCount-1", Promise05AddRowTest::constructorsOfHead);
@@ -15,7 +15,7 @@ public final class Promise05AddRowTest {
         Check.sentence("g2 any int (the bound k)", Promise05AddRowTest::boundsOfLow);
         Check.sentence("tests in order, and each refusal answers -1", Promise05AddRowTest::severalReasons);
         Check.sentence("Otherwise p gets used = true", Promise05AddRowTest::patternGetsUsed);
-        Check.sentence("the row gets index rowCount .. rowCount grows by 1, and the index is the answer", Promise05AddRowTest::indexesCountUp);
+        Check.sentence("the row gets index rowCount [..] rowCount grows by 1, and the index is the answer", Promise05AddRowTest::indexesCountUp);
         Check.sentence("with pattern p, the guard kind, g1 and g2", Promise05AddRowTest::rowsKeepTheirGuards);
         Check.sentence("Nothing else changes.", Promise05AddRowTest::nothingElseChanges);
         Check.sentence("A refusal changes nothing.", Promise05AddRowTest::refusalsLeaveThePatternFree);
@@ -240,6 +240,23 @@ public final class Promise05AddRowTest {
         Check.due("C(B(A), C(A, D))", m.match(4), 7);
         for (int t = 0; t < 3; t++) {
             Check.due("match(" + t + ")", m.match(t), BacktrackMatch.NO_MATCH);
+        }
+        for (int x = 0; x < 8; x++) {
+            dueGuardsOf(x, (x + 3) % 8);
+        }
+    }
+
+    /** Only x and y are bound, to A and D, so that a guard on any other variable would fail. */
+    private static void dueGuardsOf(int x, int y) {
+        int[][] guards = {
+            {BacktrackMatch.G_DIFF, x, y}, {BacktrackMatch.G_DIFF, y, x}, {BacktrackMatch.G_SAME, x, x}, {BacktrackMatch.G_SAME, y, y},
+            {BacktrackMatch.G_HEAD, x, 0}, {BacktrackMatch.G_HEAD, y, 3}, {BacktrackMatch.G_LOW, x, 1}, {BacktrackMatch.G_LOW, y, 1},
+        };
+        for (int[] guard : guards) {
+            BacktrackMatch m = Check.stocked();
+            m.addRow(Check.cons(m, 2, Check.var(m, x), Check.var(m, y)), guard[0], guard[1], guard[2]);
+            m.compile();
+            Check.due("C(A, D) with guard " + guard[0] + " " + guard[1] + " " + guard[2], m.match(3), 0);
         }
     }
 

@@ -10,7 +10,7 @@ public final class Promise07ResetTest {
         Check.sentence("and empties the guard log", Promise07ResetTest::emptiesTheLog);
         Check.sentence("Constructors and terms stay", Promise07ResetTest::constructorsAndTermsStay);
         Check.sentence("and so do the capacities", Promise07ResetTest::capacitiesStay);
-        Check.sentence("(the new rows have nothing of the old ones)", Promise07ResetTest::oldRowsLeaveNoTrace);
+        Check.sentence("[the new rows have nothing of the old ones]", Promise07ResetTest::oldRowsLeaveNoTrace);
         Check.end();
     }
 

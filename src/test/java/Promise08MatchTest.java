@@ -31,7 +31,8 @@ public final class Promise08MatchTest {
         }
         Check.sentence("matchInOrder(t) is exactly as match(t): same tests, same answer, same effect on the results.",
             Promise08MatchTest::bothCallsAgree);
-        Check.sentence("binding(x) for every int x .. and guardLogAt(i) for every int i give the same answers",
+        Check.sentence("Right after either call, lastRow(), binding(x) for every int x, guardLogLength() and guardLogAt(i) for every int i give the same"
+            + " answers as right after the other on the same state.",
             Promise08MatchTest::readsAgreeForEveryInt);
         Check.end();
     }
@@ -139,17 +140,46 @@ public final class Promise08MatchTest {
         Check.due("binding(0), bound before", m.binding(0), -1);
         Check.due("lastRow()", m.lastRow(), BacktrackMatch.NO_MATCH);
         Check.due("its log", log(m), "log 0 2");
+        for (int before = 0; before < 6; before++) {
+            for (int t = 0; t < 6; t++) {
+                dueAsOnANewObject(before, t);
+            }
+        }
+    }
+
+    private static void dueAsOnANewObject(int before, int t) {
+        for (boolean bound : new boolean[] {false, true}) {
+            BacktrackMatch second = bound ? allBound() : mixed();
+            BacktrackMatch first = bound ? allBound() : mixed();
+            ask(second, before);
+            Check.due("match(" + t + ") after " + before, ask(second, t), ask(first, t));
+            Check.due("the results of " + t + " after " + before, Check.results(second), Check.results(first));
+        }
+    }
+
+    /** Row 0 binds all variables to a C(_, _) of height 2. */
+    private static BacktrackMatch allBound() {
+        BacktrackMatch m = Check.stocked();
+        int all = Check.cons(m, 2, Check.wild(m), Check.wild(m));
+        for (int x = 0; x < BacktrackMatch.NUM_VARS; x++) {
+            all = Check.as(m, x, all);
+        }
+        m.addRow(all, BacktrackMatch.G_LOW, 0, 2);
+        m.compile();
+        return m;
     }
 
     private static void nothingElseChanges() {
-        BacktrackMatch m = Check.matched();
+        BacktrackMatch m = mixed();
         String before = Check.counts(m) + Check.termsAndRows(m);
         for (int t : new int[] {0, 1, 2, 3, 4, 5, -1, 6}) {
             ask(m, t);
             Check.due("the counts, terms and rows after match(" + t + ")", Check.counts(m) + Check.termsAndRows(m), before);
         }
+        BacktrackMatch once = mixed();
+        ask(once, 3);
         ask(m, 3);
-        Check.same("what is left after all that", m, Check.matched());
+        Check.same("what is left after match(3)", m, once);
     }
 
     /** Rows 0, 2, 3, 5 and 7 have guards; 3 holds for A alone, 7 for every term of height 2 at most; 4 matches B(A) alone. */
@@ -304,6 +334,8 @@ public final class Promise08MatchTest {
             plain.match(t);
             ordered.match(5 - t);
             ordered.matchInOrder(t);
+            Check.due("lastRow()", ordered.lastRow(), plain.lastRow());
+            Check.due("guardLogLength()", ordered.guardLogLength(), plain.guardLogLength());
             for (int n = -300; n <= 300; n++) {
                 dueReadsAgree(plain, ordered, n);
             }

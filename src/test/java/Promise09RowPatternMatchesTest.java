@@ -6,9 +6,9 @@ public final class Promise09RowPatternMatchesTest {
         Check.sentence("answers true iff r is in 0..rowCount-1, t is in 0..termCount-1 and row r's pattern matches t",
             Promise09RowPatternMatchesTest::rowsAndTerms);
         Check.sentence("The guard is not looked at.", Promise09RowPatternMatchesTest::guardsAreNotLookedAt);
-        Check.sentence("Any other r answers false.", Promise09RowPatternMatchesTest::otherRows);
-        Check.sentence("Any other t answers false.", Promise09RowPatternMatchesTest::otherTerms);
-        Check.sentence("Any other r or t (both at once) answers false.", Promise09RowPatternMatchesTest::otherRowsAndTerms);
+        Check.sentence("Any other r [..] answers false.", Promise09RowPatternMatchesTest::otherRows);
+        Check.sentence("Any other [..] t answers false.", Promise09RowPatternMatchesTest::otherTerms);
+        Check.sentence("Any other r or t answers false. [both at once]", Promise09RowPatternMatchesTest::otherRowsAndTerms);
         Check.sentence("It is allowed in any phase, compiled or not", Promise09RowPatternMatchesTest::everyPhase);
         Check.sentence("and changes nothing", Promise09RowPatternMatchesTest::changesNothing);
         Check.end();
@@ -128,6 +128,7 @@ public final class Promise09RowPatternMatchesTest {
         for (int t = 0; t < 6; t++) {
             m.rowPatternMatches(2, t);
         }
+        Check.dueAsMatched(m);
         Check.same("what is left", m, Check.matched());
         Check.same("what is left before compile", open, six());
     }

@@ -4,8 +4,8 @@ public final class Promise10LastRowTest {
         Check.sentence("the row selected by the last match or matchInOrder", Promise10LastRowTest::lastSelected);
         Check.sentence("that was not refused", Promise10LastRowTest::refusedCallsDoNotCount);
         Check.sentence("it is NO_MATCH if that call selected no row", Promise10LastRowTest::noRowSelected);
-        Check.sentence("it is NO_MATCH at first", Promise10LastRowTest::atFirst);
-        Check.sentence("it is NO_MATCH after reset", Promise10LastRowTest::afterReset);
+        Check.sentence("it is NO_MATCH [..] at first", Promise10LastRowTest::atFirst);
+        Check.sentence("it is NO_MATCH [..] after reset", Promise10LastRowTest::afterReset);
         Check.sentence("Changes nothing.", Promise10LastRowTest::changesNothing);
         Check.end();
     }
@@ -80,6 +80,7 @@ public final class Promise10LastRowTest {
         BacktrackMatch m = Check.matched();
         Check.due("asked", m.lastRow(), 2);
         Check.due("asked again", m.lastRow(), 2);
+        Check.dueAsMatched(m);
         Check.same("what is left", m, Check.matched());
     }
 }

@@ -3,8 +3,8 @@ public final class Promise11BindingTest {
     public static void main(String[] args) {
         Check.sentence("answers the term id bound to variable x in the results", Promise11BindingTest::everyVariable);
         Check.sentence("-1 if x is unbound", Promise11BindingTest::unbound);
-        Check.sentence("-1 if x is outside 0..7", Promise11BindingTest::outside);
-        Check.sentence("(the results of a refused match are those before it)", Promise11BindingTest::afterRefusedMatch);
+        Check.sentence("-1 if [..] x is outside 0..7", Promise11BindingTest::outside);
+        Check.sentence("[the results of a refused match are those before it]", Promise11BindingTest::afterRefusedMatch);
         Check.sentence("Changes nothing.", Promise11BindingTest::changesNothing);
         Check.end();
     }
@@ -92,6 +92,17 @@ public final class Promise11BindingTest {
         for (int x : Check.outside(BacktrackMatch.NUM_VARS)) {
             m.binding(x);
         }
+        for (int x = 0; x < BacktrackMatch.NUM_VARS; x++) {
+            Check.due("binding(" + x + ") after others", m.binding(x), 5);
+        }
         Check.same("what is left", m, allBound());
+        m = Check.matched();
+        for (int x = 0; x < BacktrackMatch.NUM_VARS; x++) {
+            m.binding(x);
+        }
+        for (int x : Check.outside(BacktrackMatch.NUM_VARS)) {
+            m.binding(x);
+        }
+        Check.dueAsMatched(m);
     }
 }

@@ -5,8 +5,8 @@ public final class Promise12GuardLogTest {
         Check.sentence("guardLogAt(i) answers the row index of guard log entry i, entry 0 being the first guard run",
             Promise12GuardLogTest::entries);
         Check.sentence("it answers -1 if i is outside 0..guardLogLength()-1", Promise12GuardLogTest::outside);
-        Check.sentence("(entries of a longer log before are gone)", Promise12GuardLogTest::shorterLog);
-        Check.sentence("(no entries at first, after a refused match those before, none after reset)", Promise12GuardLogTest::emptyLog);
+        Check.sentence("[entries of a longer log before are gone]", Promise12GuardLogTest::shorterLog);
+        Check.sentence("[no entries at first, after a refused match those before, none after reset]", Promise12GuardLogTest::emptyLog);
         Check.sentence("Neither changes anything.", Promise12GuardLogTest::changesNothing);
         Check.end();
     }
@@ -105,6 +105,7 @@ public final class Promise12GuardLogTest {
         for (int i : Check.outside(2)) {
             m.guardLogAt(i);
         }
+        Check.dueAsMatched(m);
         Check.same("what is left", m, Check.matched());
     }
 }

@@ -3,10 +3,10 @@ public final class Promise13TermHeightTest {
     public static void main(String[] args) {
         Check.sentence("HEIGHT of a term: 1 if its constructor has arity 0", Promise13TermHeightTest::leaves);
         Check.sentence("else 1 + the greatest height among its children", Promise13TermHeightTest::greatestChild);
-        Check.sentence("termHeight(t) answers the HEIGHT of term t (from the lowest to the highest)", Promise13TermHeightTest::everyHeight);
+        Check.sentence("termHeight(t) answers the HEIGHT of term t [from the lowest to the highest]", Promise13TermHeightTest::everyHeight);
         Check.sentence("or -1 if t is outside 0..termCount-1", Promise13TermHeightTest::outside);
         Check.sentence("Changes nothing.", Promise13TermHeightTest::changesNothing);
-        Check.sentence("(constructors and terms stay after reset)", Promise13TermHeightTest::afterReset);
+        Check.sentence("Constructors and terms stay [so the heights after reset]", Promise13TermHeightTest::afterReset);
         Check.end();
     }
 
@@ -30,6 +30,8 @@ public final class Promise13TermHeightTest {
         }
         Check.due("the higher child on the left", m.termHeight(m.term(2, 4, 0)), 4);
         Check.due("the higher child on the right", m.termHeight(m.term(2, 0, 4)), 4);
+        Check.due("the higher child of a lower constructor", m.termHeight(m.term(2, 1, m.term(1, 2, 0))), 4);
+        Check.due("the lower child of a higher constructor", m.termHeight(m.term(2, 2, 1)), 3);
         Check.due("children alike", m.termHeight(m.term(2, 4, 4)), 4);
         Check.due("a single child", m.termHeight(m.term(1, 4, 0)), 4);
         Check.due("a single child that names a higher term", m.termHeight(m.term(1, 1, 4)), 2);
@@ -73,6 +75,7 @@ public final class Promise13TermHeightTest {
         for (int t : Check.outside(6)) {
             m.termHeight(t);
         }
+        Check.dueAsMatched(m);
         Check.same("what is left", m, Check.matched());
     }
 

@@ -100,6 +100,7 @@ public final class Promise14CountTest {
         for (int what : Check.outside(5)) {
             m.count(what);
         }
+        Check.dueAsMatched(m);
         Check.same("what is left", m, Check.matched());
     }
 }
