@@ -59,19 +59,19 @@ public final class OpeningTest {
         }
     }
 
-    /** The terms are named by their structure; constructor c of three has arity c. */
+    /** The terms are named by their structure; there are two constructors of each arity. */
     private static void equalTermsEqualIds() {
         BacktrackMatch m = new BacktrackMatch(64, 64, 8);
-        for (int arity = 0; arity <= 2; arity++) {
-            m.defCons(arity);
+        for (int c = 0; c < 6; c++) {
+            m.defCons(c / 2);
         }
         Map<String, Integer> ids = new HashMap<>();
         List<String> names = new ArrayList<>();
         for (int step = 0; step < 3000; step++) {
-            int c = names.isEmpty() ? 0 : step % 3;
-            int t0 = names.isEmpty() ? 0 : step / 3 % names.size();
-            int t1 = names.isEmpty() ? 0 : step / 7 % names.size();
-            String name = c == 0 ? "A" : c == 1 ? "B(" + names.get(t0) + ")" : "C(" + names.get(t0) + "," + names.get(t1) + ")";
+            int c = names.isEmpty() ? 0 : step % 6;
+            int t0 = names.isEmpty() ? 0 : step / 6 % names.size();
+            int t1 = names.isEmpty() ? 0 : step / 13 % names.size();
+            String name = c + (c < 2 ? "" : "(" + names.get(t0) + (c < 4 ? "" : "," + names.get(t1)) + ")");
             int due = ids.getOrDefault(name, names.size() < 64 ? names.size() : -1);
             Check.due(name, m.term(c, t0, t1), due);
             if (due == names.size()) {
